@@ -1376,9 +1376,10 @@ public final class Tellcourt {
             AgentList begun = outside.next;
             outside.queue.size = 0;
             outside.queue.addAll(begun);
+            begun.size = 0;
+            // What waited, or was assumed, in the step before is dropped by its end.
             outside.waits.size = 0;
             outside.assumed.size = 0;
-            begun.size = 0;
             rewriter.startStep();
             store.acts = 0;
             depth = 0;
@@ -1593,7 +1594,6 @@ public final class Tellcourt {
                     level.next.add(nodes.one[hand.node], hand);
                 }
             }
-            level.waits.size = 0;
             if (depth > 0) {
                 depth--;
                 levels[depth].next.addAll(level.next);

@@ -136,11 +136,14 @@ public final class RandomRuns {
     }
 
     private int sorts, values, slots;
+    // Few agents, and few nodes that bring two, so that a step has few schedules.
+    private boolean isSmall;
 
     private void play() {
         sorts = 1 + upTo(4);
         values = 1 + upTo(4);
         slots = 1 + upTo(4);
+        isSmall = rarely(2);
         for (int i = upTo(6); i > 0; i--) {
             variable();
         }
@@ -162,7 +165,7 @@ public final class RandomRuns {
             for (int i = upTo(3); i > 0; i--) {
                 law();
             }
-            for (int i = upTo(4); i > 0; i--) {
+            for (int i = isSmall ? 1 + upTo(2) : upTo(4); i > 0; i--) {
                 begin();
             }
             if (rarely(6)) {
@@ -172,7 +175,7 @@ public final class RandomRuns {
                 int s = rarely(10) ? odd() : upTo(65537);
                 same("seed(" + s + ")", () -> court.seed(s), () -> model.seed(s));
             }
-            if (rarely(3)) {
+            if (rarely(isSmall ? 1 : 3)) {
                 saw("ends " + same("ends()", court::ends, model::ends));
             }
             int before = model.clock;
@@ -209,7 +212,7 @@ public final class RandomRuns {
 
     private void wrap() {
         int n = node(), m = node(), a = term(), b = term(), c = condition();
-        switch (upTo(13)) {
+        switch (isSmall && rarely(2) ? 2 + upTo(2) : upTo(13)) {
             case 0, 1 -> same("both(" + n + ", " + m + ")", () -> court.both(n, m), () -> model.both(n, m));
             case 2 -> same("when(" + c + ", " + a + ", " + b + ", " + n + ")", () -> court.when(c, a, b, n), () -> model.when(c, a, b, n));
             case 3 -> either();
