@@ -334,7 +334,6 @@ public final class Tellcourt {
 
     public int standingAnew() {
         scratch.clear();
-        survey.restart();
         for (int i = 0; i < entries; i++) {
             int at = ENTRY * i;
             switch (journal[at]) {

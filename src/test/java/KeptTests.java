@@ -13,7 +13,10 @@ public final class KeptTests {
         slices();
         slicesOfRules();
         highNumbers();
+        highSlicesOfAgents();
         historyInTries();
+        failuresAmongRules();
+        deepFirings();
         triesOneBehindAnother();
         failedTryKeepsWhatWas();
         endsSeeTheState();
@@ -216,6 +219,85 @@ public final class KeptTests {
         Due.holds("36 slices of these", z.isMadeBy(66, 65) && z.isMadeBy(66, 0) && !z.isMadeBy(66, 64) && z.isMadeBy(67, 64) && !z.isMadeBy(67, 0));
     }
 
+    private static void highSlicesOfAgents() {
+        Tellcourt x = new Tellcourt();
+        int t = told(x, 0, S0, 0), mark = told(x, 1, S0, 0);
+        fill(x, 66);
+        x.begin(t, 1, 0);
+        x.begin(t, 2, 0);
+        x.step();
+        int both = x.when(HAS, 1, 0, x.next(x.when(HAS, 2, 0, x.both(mark, x.each(mark)))));
+        run(x, both, 7, 0);
+        x.begin(mark, 8, 0);
+        x.step();
+        Due.holds("32 a fresh one has none", x.part(68, 1) == 8 && !x.isMadeBy(68, 66) && !x.isMadeBy(68, 67));
+        Due.holds("32 66 and 67", x.part(69, 1) == 7 && x.isMadeBy(69, 66) && x.isMadeBy(69, 67) && !x.isMadeBy(69, 2) && !x.isMadeBy(69, 3));
+        x.begin(mark, 9, 0);
+        x.begin(mark, 9, 0);
+        x.step();
+        Due.holds("32 those begun behind it have none", x.part(71, 1) == 9 && !x.isMadeBy(71, 66) && !x.isMadeBy(72, 67));
+        Due.holds("32 the EACH has them", x.part(73, 1) == 7 && x.isMadeBy(73, 66) && x.isMadeBy(73, 67));
+    }
+
+    private static void failuresAmongRules() {
+        // A TRY that fails in a body leaves nothing to do: no second body, no partner, no other token that wakes.
+        Tellcourt x = withVariables(1);
+        x.head(0, S0, ANY, true);
+        x.other(1, S0, ANY, true);
+        x.body(NONE, S0, 1);
+        x.body(2, S0, 0);
+        x.rule();
+        int zero = told(x, 0, S0, 0), one = told(x, 1, S0, 0), other = told(x, 3, 0, 0);
+        x.begin(one, 5, 0);
+        x.begin(one, 5, 0);
+        Due.is("14 acts", run(x, x.attempt(zero, other), 5, 0), 6);
+        Due.is("14 it fired once", x.fired(0), 1);
+        Due.is("14 nothing was told by it", x.tokens(), 4);
+        Due.holds("14 the other one", x.part(2, 3) == 0 && x.part(3, 0) == 3);
+        Tellcourt y = withVariables(2);
+        int t = told(y, 0, S0, S1), stand = told(y, 3, 0, 0);
+        y.begin(t, F, 1);
+        y.begin(t, F, 2);
+        y.step();
+        y.head(0, S0, 1, true);
+        y.body(NONE, S0, 9);
+        y.rule();
+        y.head(0, S0, 2, true);
+        y.body(2, S0, 0);
+        y.rule();
+        run(y, y.attempt(y.equate(S0, 8), stand), F, 0);
+        Due.holds("14 the second one does not wake", y.fired(0) == 1 && y.fired(1) == 0 && y.tokens() == 3);
+        // At the 60th act, too: a firing too many fails the TRY, and then the other one fails the store.
+        Tellcourt z = new Tellcourt();
+        z.head(0, S0, S1, false);
+        z.body(0, S1, S0);
+        z.rule();
+        Due.is("14 an endless rule", run(z, z.attempt(told(z, 0, 1, 2), told(z, 3, 0, 0)), 0, 0), 60);
+        Due.holds("14 the store fails", z.hasFailed() && z.fired(0) == 58 && z.standing() == 0 && z.tokens() == 59);
+    }
+
+    private static void deepFirings() {
+        // Each firing wakes the token of the next one: 59 firings within one another, and the act that begins them.
+        Tellcourt x = withVariables(60);
+        int t = told(x, 0, S0, S1);
+        for (int i = 0; i < 59; i++) {
+            x.begin(t, F + i, F + i + 1);
+            if (x.waiting() == 20) {
+                x.step();
+            }
+        }
+        x.step();
+        x.head(0, S0, S1, true);
+        x.guard(KNOWN, S0, 0);
+        x.body(NONE, S1, 7);
+        x.rule();
+        x.begin(x.equate(S0, 7), F, 0);
+        Due.is("22 one schedule", x.ends(), 1);
+        Due.is("22 sixty acts", x.step(), 60);
+        Due.holds("22 all have the value", !x.hasFailed() && x.fired(0) == 59 && x.value(59) == 7);
+        Due.is("22 done anew", x.standingAnew(), 59);
+    }
+
     private static void historyInTries() {
         // A TRY that fails forgets its own firings, and no others, for both rules and all places.
         Tellcourt x = withVariables(2);
@@ -389,6 +471,11 @@ public final class KeptTests {
         w.begin(ask, F, 0);
         w.begin(w.equate(S0, 2), F, 0);
         Due.is("24 a token that stands", w.ends(), 2);
+        Tellcourt u = withVariables(1);
+        run(u, told(u, 4, 3, 3), 0, 0);
+        u.begin(u.when(HAS + 4, 3, 3, u.equate(S0, 1)), F, 0);
+        u.begin(u.equate(S0, 2), F, 0);
+        Due.is("24 a token of its sort", u.ends(), 2);
         Tellcourt v = withVariables(3);
         v.begin(v.equate(S0, S1), F, F + 1);
         run(v, v.equate(S0, S1), F + 2, 9);

@@ -925,6 +925,8 @@ public final class PromiseTests {
         // Those that a step brings may be more than 30; only beginning is barred by that.
         Tellcourt y = new Tellcourt();
         int n = y.next(told(y, 0, 0, 0));
+        Due.fails("21 no variable at all", Due.PLACE, () -> y.begin(n, F, 0));
+        Due.fails("21 nor for b", Due.PLACE, () -> y.begin(n, 0, F));
         int two = y.both(n, n);
         for (int i = 0; i < 18; i++) {
             y.begin(two, 0, 0);
