@@ -1047,7 +1047,7 @@ public final class Tellcourt {
                 int partner = rule.heads < 2 ? NONE : other;
                 int one = head == 0 ? token : partner;
                 int two = head == 0 ? partner : token;
-                if (isPartner(rule, token, partner) && isMatch(rule, one, two) && isNew(which, one, two)) {
+                if (isPartner(rule, head, token, partner) && isNew(which, one, two) && isMatch(rule, one, two)) {
                     fire(which, one, two);
                     return;
                 }
@@ -1055,18 +1055,17 @@ public final class Tellcourt {
             depth--;
         }
 
-        private boolean isPartner(Rule rule, int token, int partner) {
-            return rule.heads < 2 || partner != token && store.stands[partner];
+        /** Whether the partner can be the other head at all; most are passed over by this alone. */
+        private boolean isPartner(Rule rule, int head, int token, int partner) {
+            return rule.heads < 2 || partner != token && store.stands[partner]
+                    && store.sort[partner] == rule.sorts[head == 0 ? 1 : 0];
         }
 
-        /** Whether the tokens match the heads and the guard is entailed; fills the binds. */
+        /** Whether tokens of the right sorts match the heads and the guard is entailed; fills the binds. */
         private boolean isMatch(Rule rule, int one, int two) {
             Arrays.fill(binds, UNBOUND);
             for (int place = 0; place < 2 * rule.heads; place++) {
                 int token = place < 2 ? one : two;
-                if (store.sort[token] != rule.sorts[place / 2]) {
-                    return false;
-                }
                 int argument = place % 2 == 0 ? store.first[token] : store.second[token];
                 int pattern = rule.patterns[place];
                 if (pattern == ANY) {
