@@ -83,9 +83,10 @@ public final class Tellcourt {
             throws IndexOutOfBoundsException, IllegalArgumentException, IllegalStateException {
         needNode(node);
         needCondition(condition);
-        needTerms(a, b);
+        int right = asked(condition, b);
+        needTerms(a, right);
         needRoom();
-        return nodes.add(Nodes.WHEN, condition, a, b, node, NONE);
+        return nodes.add(Nodes.WHEN, condition, a, right, node, NONE);
     }
 
     public int either(int one, int first, int other, int last)
@@ -133,9 +134,10 @@ public final class Tellcourt {
             throws IndexOutOfBoundsException, IllegalArgumentException, IllegalStateException {
         needNode(node);
         needCondition(condition);
-        needTerms(a, b);
+        int right = asked(condition, b);
+        needTerms(a, right);
         needRoom();
-        return nodes.add(isDefault ? Nodes.DEFAULT : Nodes.UNLESS, condition, a, b, node, NONE);
+        return nodes.add(isDefault ? Nodes.DEFAULT : Nodes.UNLESS, condition, a, right, node, NONE);
     }
 
     public int lot(int weight, int one, int more, int other)
@@ -189,12 +191,13 @@ public final class Tellcourt {
 
     public boolean guard(int condition, int a, int b) throws IllegalArgumentException, IllegalStateException {
         needCondition(condition);
-        needRuleTerms(a, b);
+        int right = asked(condition, b);
+        needRuleTerms(a, right);
         Rule begun = begunRule();
         if (!isRuleBegun || begun.isGuarded || begun.bodies > 0) {
             throw new IllegalStateException("no guard can be given");
         }
-        begun.addGuard(condition, a, b);
+        begun.addGuard(condition, a, right);
         return true;
     }
 
@@ -422,6 +425,11 @@ public final class Tellcourt {
         if (condition < HAS || condition >= HAS + SORTS) {
             needWithin(condition, EQUAL, KNOWN);
         }
+    }
+
+    /** The second term of a condition; KNOWN has none, so that any b will do, and a value stands for it. */
+    private static int asked(int condition, int b) {
+        return condition == KNOWN ? 0 : b;
     }
 
     private static void needTerms(int a, int b) {

@@ -174,12 +174,12 @@ final class Model {
         if (condition >= HAS) {
             return !holders(condition - HAS, a, b).isEmpty();
         }
-        Integer va = known(a), vb = condition == KNOWN ? null : known(b);
+        Integer va = known(a), vb = known(b);
         return switch (condition) {
             case 0 -> same(a, b);
             case 1 -> va != null && vb != null && !va.equals(vb);
             case 2 -> va != null && vb != null && va < vb;
-            default -> va != null;
+            default -> throw new AssertionError("KNOWN is asked of one term alone");
         };
     }
 
@@ -278,6 +278,10 @@ final class Model {
         }
     }
 
+    boolean allows(int condition, int a, int b, Map<Integer, Integer> binds) {
+        return condition == KNOWN ? known(bound(a, binds)) != null : entailed(condition, bound(a, binds), bound(b, binds));
+    }
+
     void offer(int r, List<Integer> as) {
         Law law = laws.get(r);
         Map<Integer, Integer> binds = new HashMap<>();
@@ -288,7 +292,7 @@ final class Model {
                 return;
             }
         }
-        if (law.guard != null && !entailed(law.guard[0], bound(law.guard[1], binds), bound(law.guard[2], binds))) {
+        if (law.guard != null && !allows(law.guard[0], law.guard[1], law.guard[2], binds)) {
             return;
         }
         boolean removes = law.heads.stream().anyMatch(h -> !h.stays);
@@ -341,7 +345,7 @@ final class Model {
 
     boolean holds(Agent g, int node) {
         Node n = nodes.get(node);
-        return entailed(n.what, look(g, n.a), look(g, n.b));
+        return n.what == KNOWN ? known(look(g, n.a)) != null : entailed(n.what, look(g, n.a), look(g, n.b));
     }
 
     static Agent with(Agent g, int node) {
@@ -562,7 +566,7 @@ final class Model {
 
     int when(int condition, int a, int b, int n) {
         place(isNode(n));
-        range(isCondition(condition) && isTerm(a) && isTerm(b));
+        range(isCondition(condition) && isTerm(a) && (condition == KNOWN || isTerm(b)));
         return node("when", condition, a, b, n, 0, false);
     }
 
@@ -597,7 +601,7 @@ final class Model {
 
     int unless(boolean isDefault, int condition, int a, int b, int n) {
         place(isNode(n));
-        range(isCondition(condition) && isTerm(a) && isTerm(b));
+        range(isCondition(condition) && isTerm(a) && (condition == KNOWN || isTerm(b)));
         return node(isDefault ? "default" : "unless", condition, a, b, n, 0, false);
     }
 
@@ -639,7 +643,7 @@ final class Model {
     }
 
     boolean guard(int condition, int a, int b) {
-        range(isCondition(condition) && isLawTerm(a) && isLawTerm(b));
+        range(isCondition(condition) && isLawTerm(a) && (condition == KNOWN || isLawTerm(b)));
         state(draft != null && draft.guard == null && draft.bodies.isEmpty());
         draft.guard = new int[] {condition, a, b};
         return true;

@@ -5,6 +5,8 @@ public final class PromiseTests {
     private static final int EQUAL = Tellcourt.EQUAL, UNLIKE = Tellcourt.UNLIKE, LESS = Tellcourt.LESS;
     private static final int KNOWN = Tellcourt.KNOWN, HAS = Tellcourt.HAS;
     private static final int[] NO_TERMS = {-100, 100, 199, 204, 299, 300, 400, 401, Integer.MIN_VALUE, Integer.MAX_VALUE};
+    // For KNOWN, b may be any int.
+    private static final int[] ANY_INTS = {0, 99, -99, S0, S3, ANY, F, F + 1, 150, 204, -100, -159382412, Integer.MIN_VALUE, Integer.MAX_VALUE};
     private static final int[] NO_NODES = {-1, 60, Integer.MIN_VALUE, Integer.MAX_VALUE};
     private static final int[] NO_CONDITIONS = {-1, 4, 9, 16, Integer.MIN_VALUE, Integer.MAX_VALUE};
 
@@ -18,6 +20,7 @@ public final class PromiseTests {
         token();
         both();
         when();
+        knownAnyB();
         conditions();
         either();
         hide();
@@ -34,6 +37,7 @@ public final class PromiseTests {
         head();
         otherHead();
         guard();
+        guardKnownAnyB();
         body();
         rule();
         begin();
@@ -296,6 +300,39 @@ public final class PromiseTests {
         int tokens = x.tokens();
         run(x, x.when(condition, S0, S1, 0), a, b);
         return x.tokens() > tokens;
+    }
+
+    private static void knownAnyB() {
+        for (int b : ANY_INTS) {
+            Tellcourt x = withVariables(2);
+            int n = told(x, 0, S0, S1);
+            int known = x.when(KNOWN, S0, b, n);
+            Due.is("6 KNOWN with b " + b, known, 1);
+            Due.fails("6 KNOWN, a matters", Due.RANGE, () -> x.when(KNOWN, 150, b, n));
+            Due.fails("6 KNOWN, the node matters", Due.PLACE, () -> x.when(KNOWN, S0, b, 60));
+            Due.is("6 it waits with b " + b, run(x, known, F, 3), 1);
+            Due.is("6 it goes on with b " + b, run(x, known, 4, 3), 2);
+            tokenIs("6 what came", x, 0, 0, 4, 3, 1, 1);
+            Due.is("7 as a side with b " + b, run(x, x.either(known, 1, known, 2), 5, F), 2);
+            int unless = x.unless(false, KNOWN, S0, b, n);
+            Due.is("12 UNLESS with b " + b, unless, 3);
+            run(x, unless, 6, 6);
+            Due.is("12 it is entailed with b " + b, x.waiting(), 0);
+            run(x, unless, F, 6);
+            Due.is("12 it is not entailed with b " + b, x.waiting(), 1);
+            x.step();
+            int byDefault = x.unless(true, KNOWN, S0, b, n);
+            Due.is("12 DEFAULT with b " + b, byDefault, 4);
+            Due.is("12 it is assumed with b " + b, run(x, byDefault, F, 7), 2);
+            Due.is("12 it is not assumed with b " + b, run(x, byDefault, 7, 7), 1);
+            Due.fails("12 KNOWN, a matters", Due.RANGE, () -> x.unless(true, KNOWN, -100, b, n));
+        }
+        Tellcourt y = new Tellcourt();
+        for (int i = 0; i < 60; i++) {
+            y.equate(0, 0);
+        }
+        Due.fails("6 KNOWN, 61st", Due.STATE, () -> y.when(KNOWN, 0, 150, 0));
+        Due.fails("12 KNOWN, 61st", Due.STATE, () -> y.unless(false, KNOWN, 0, 150, 0));
     }
 
     private static void conditions() {
@@ -838,6 +875,26 @@ public final class PromiseTests {
         run(y, zero, 1, 0);
         Due.is("18 HAS guards", y.fired(0), 1);
         Due.holds("18 the guard's token is not in the slice", y.isMadeBy(3, 2) && !y.isMadeBy(3, 1));
+    }
+
+    private static void guardKnownAnyB() {
+        int[] more = {S1, S2, 199, 200 + 99};
+        for (int i = 0; i < ANY_INTS.length + more.length; i++) {
+            int b = i < ANY_INTS.length ? ANY_INTS[i] : more[i - ANY_INTS.length];
+            Tellcourt x = withVariables(1);
+            Due.fails("18 none was begun", Due.STATE, () -> x.guard(KNOWN, 0, b) ? 1 : 0);
+            x.head(0, S0, ANY, true);
+            Due.fails("18 KNOWN, a matters", Due.RANGE, () -> x.guard(KNOWN, S1, b) ? 1 : 0);
+            Due.holds("18 KNOWN with b " + b, x.guard(KNOWN, S0, b));
+            Due.fails("18 a second one", Due.STATE, () -> x.guard(KNOWN, S0, b) ? 1 : 0);
+            x.body(1, S0, 0);
+            x.rule();
+            int told = told(x, 0, S0, 0);
+            run(x, told, F, 0);
+            Due.is("18 it is not entailed with b " + b, x.fired(0), 0);
+            run(x, told, 3, 0);
+            Due.is("18 it is entailed with b " + b, x.fired(0), 1);
+        }
     }
 
     private static void body() {

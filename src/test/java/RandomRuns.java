@@ -92,6 +92,11 @@ public final class RandomRuns {
         return k < 4 ? 200 + upTo(2) : k < 5 ? 200 + upTo(4) : upTo(values);
     }
 
+    /** The second term of a condition: for KNOWN any int will do. */
+    private int term(int condition) {
+        return condition == Model.KNOWN && rarely(2) ? odd() : term();
+    }
+
     private int sort() {
         return rarely(150) ? odd() : upTo(sorts);
     }
@@ -211,7 +216,7 @@ public final class RandomRuns {
     }
 
     private void wrap() {
-        int n = node(), m = node(), a = term(), b = term(), c = condition();
+        int n = node(), m = node(), a = term(), c = condition(), b = term(c);
         switch (isSmall && rarely(2) ? 2 + upTo(2) : upTo(13)) {
             case 0, 1 -> same("both(" + n + ", " + m + ")", () -> court.both(n, m), () -> model.both(n, m));
             case 2 -> same("when(" + c + ", " + a + ", " + b + ", " + n + ")", () -> court.when(c, a, b, n), () -> model.when(c, a, b, n));
@@ -240,7 +245,7 @@ public final class RandomRuns {
 
     private void either() {
         int n = node(), m = node(), c = condition(), d = condition();
-        int a = term(), b = term(), e = term(), f = term();
+        int a = term(), b = term(c), e = term(), f = term(d);
         same("when(" + c + ", " + a + ", " + b + ", " + n + ")", () -> court.when(c, a, b, n), () -> model.when(c, a, b, n));
         same("when(" + d + ", " + e + ", " + f + ", " + m + ")", () -> court.when(d, e, f, m), () -> model.when(d, e, f, m));
         int p = rarely(30) ? odd() : upTo(2), q = rarely(30) ? odd() : upTo(2);
@@ -265,7 +270,7 @@ public final class RandomRuns {
             }
         }
         if (rarely(2)) {
-            int c = condition(), a = lawTerm(), b = lawTerm();
+            int c = condition(), a = lawTerm(), b = c == Model.KNOWN && rarely(2) ? odd() : lawTerm();
             same("guard(" + c + ", " + a + ", " + b + ")", () -> court.guard(c, a, b) ? 1 : 0, () -> model.guard(c, a, b) ? 1 : 0);
         }
         for (int i = upTo(10) == 0 ? upTo(4) : 1 + upTo(2); i > 0; i--) {
