@@ -1,10 +1,5 @@
 /** What must be kept, and what must not be left behind: slices, histories, tries, schedules and steps done anew. */
-public final class KeptTests {
-    private static final int S0 = 200, S1 = 201, S2 = 202;
-    private static final int F = Tellcourt.FREE, ANY = Tellcourt.ANY, NONE = Tellcourt.NONE;
-    private static final int EQUAL = Tellcourt.EQUAL, UNLIKE = Tellcourt.UNLIKE;
-    private static final int KNOWN = Tellcourt.KNOWN, HAS = Tellcourt.HAS;
-
+public final class KeptTests extends Scenes {
     private KeptTests() {
     }
 
@@ -26,23 +21,6 @@ public final class KeptTests {
         anewAgain();
         anewOfLimits();
         Due.end("KeptTests");
-    }
-
-    private static Tellcourt withVariables(int many) {
-        Tellcourt x = new Tellcourt();
-        for (int i = 0; i < many; i++) {
-            x.variable();
-        }
-        return x;
-    }
-
-    private static int run(Tellcourt x, int node, int a, int b) {
-        x.begin(node, a, b);
-        return x.step();
-    }
-
-    private static int told(Tellcourt x, int sort, int a, int b) {
-        return x.token(sort, a, b, true);
     }
 
     private static void classes() {
@@ -156,13 +134,7 @@ public final class KeptTests {
 
     /** Passing tokens, so that the next one told has a high number. */
     private static void fill(Tellcourt x, int many) {
-        int pass = x.token(5, -1, -1, false);
-        for (int left = many; left > 0; left -= 30) {
-            for (int i = 0; i < Math.min(left, 30); i++) {
-                x.begin(pass, 0, 0);
-            }
-            x.step();
-        }
+        runOften(x, x.token(5, -1, -1, false), many);
     }
 
     private static void highNumbers() {
@@ -379,7 +351,7 @@ public final class KeptTests {
         y.begin(y.attempt(assumes, told(y, 3, 0, 0)), 0, 0);
         y.begin(y.attempt(told(y, 1, 0, 0), told(y, 3, 0, 0)), 0, 0);
         y.step();
-        Due.holds("14 both held", !y.hasFailed() && y.standing() == 2 && y.part(0, 0) + y.part(1, 0) == 1);
+        Due.holds("14 both held", !y.hasFailed() && y.tokens() == 2 && y.standing() == 2);
         // What waits in a TRY that held is dropped, and does not come in the next one.
         Tellcourt z = new Tellcourt();
         int m = told(z, 0, 0, 0), n = told(z, 1, 0, 0);

@@ -1,9 +1,5 @@
 /** Each promise of the document by its number: ordinary inputs, edges, and wrong inputs. */
-public final class PromiseTests {
-    private static final int S0 = 200, S1 = 201, S2 = 202, S3 = 203;
-    private static final int F = Tellcourt.FREE, ANY = Tellcourt.ANY, NONE = Tellcourt.NONE;
-    private static final int EQUAL = Tellcourt.EQUAL, UNLIKE = Tellcourt.UNLIKE, LESS = Tellcourt.LESS;
-    private static final int KNOWN = Tellcourt.KNOWN, HAS = Tellcourt.HAS;
+public final class PromiseTests extends Scenes {
     private static final int[] NO_TERMS = {-100, 100, 199, 204, 299, 300, 400, 401, Integer.MIN_VALUE, Integer.MAX_VALUE};
     // For KNOWN, b may be any int.
     private static final int[] ANY_INTS = {0, 99, -99, S0, S3, ANY, F, F + 1, 150, 204, -100, -159382412, Integer.MIN_VALUE, Integer.MAX_VALUE};
@@ -56,51 +52,6 @@ public final class PromiseTests {
         chance();
         fullNodes();
         Due.end("PromiseTests");
-    }
-
-    // ---- helpers
-
-    private static Tellcourt withVariables(int many) {
-        Tellcourt x = new Tellcourt();
-        for (int i = 0; i < many; i++) {
-            x.variable();
-        }
-        return x;
-    }
-
-    /** Begins the node with these slots and does a step; answers the acts. */
-    private static int run(Tellcourt x, int node, int a, int b) {
-        x.begin(node, a, b);
-        return x.step();
-    }
-
-    private static int told(Tellcourt x, int sort, int a, int b) {
-        return x.token(sort, a, b, true);
-    }
-
-    private static void tokenIs(String what, Tellcourt x, int token, int... due) {
-        for (int part = 0; part < due.length; part++) {
-            Due.is(what + ", part " + part + " of token " + token, x.part(token, part), due[part]);
-        }
-    }
-
-    /** An EQUATE of 0 and 1: a step that does it fails. */
-    private static int failing(Tellcourt x) {
-        return x.equate(0, 1);
-    }
-
-    private static Tellcourt failed() {
-        Tellcourt x = withVariables(1);
-        run(x, failing(x), 0, 0);
-        return x;
-    }
-
-    private static int chain(Tellcourt x, int... nodes) {
-        int all = nodes[nodes.length - 1];
-        for (int i = nodes.length - 2; i >= 0; i--) {
-            all = x.both(nodes[i], all);
-        }
-        return all;
     }
 
     // ---- promise 1, and the constants

@@ -118,7 +118,10 @@ public final class RandomRuns {
         if (rarely(100)) {
             return odd();
         }
-        return v > 0 && upTo(3) > 0 ? 400 + upTo(Math.min(v, 5)) : upTo(values);
+        if (v == 0 || upTo(3) == 0) {
+            return upTo(values);
+        }
+        return 400 + (rarely(3) ? v - 1 - upTo(Math.min(v, 2)) : upTo(Math.min(v, 5)));
     }
 
     private int pattern() {
@@ -151,6 +154,9 @@ public final class RandomRuns {
         isSmall = rarely(2);
         for (int i = upTo(6); i > 0; i--) {
             variable();
+        }
+        if (rarely(8)) {
+            crowd();
         }
         for (int i = 1 + upTo(3); i > 0; i--) {
             leaf();
@@ -199,6 +205,22 @@ public final class RandomRuns {
             saw("fired " + Math.min(10, model.firings.values().stream().mapToInt(n -> n).sum()));
         }
         court.standing();
+    }
+
+    /** Makes so many variables and tokens that the next ones may be too many. */
+    private void crowd() {
+        while (model.variables() < 53 + upTo(8)) {
+            variable();
+        }
+        boolean lasts = rarely(2);
+        same("token(5, 0, 0, " + lasts + ")", () -> court.token(5, 0, 0, lasts), () -> model.token(5, 0, 0, lasts));
+        int n = model.nodes.size() - 1;
+        for (int left = 80 + upTo(20); left > 0; left--) {
+            same("begin(" + n + ", 0, 0)", () -> court.begin(n, 0, 0), () -> model.begin(n, 0, 0));
+            if (left == 1 || model.waiting() == 30) {
+                same("step()", court::step, model::step);
+            }
+        }
     }
 
     private void variable() {
@@ -313,7 +335,7 @@ public final class RandomRuns {
                 int j = p;
                 same("part(" + i + ", " + j + ")", () -> court.part(i, j), () -> model.part(i, j));
             }
-            for (int u = -1; u <= model.tokens(); u++) {
+            for (int u = -1; u <= model.tokens() && (isLast || model.tokens() < 50); u++) {
                 int j = u;
                 same("isMadeBy(" + i + ", " + j + ")", () -> court.isMadeBy(i, j) ? 1 : 0, () -> model.isMadeBy(i, j) ? 1 : 0);
             }
