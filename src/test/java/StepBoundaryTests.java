@@ -67,6 +67,8 @@ public final class StepBoundaryTests extends Scenes {
         endsOfNothing();
         endsAreNoStep();
         endsCountEachAsOften();
+        endsBySortLastingAndArguments();
+        endsOfClasses();
         endsOfManyVariables();
         endsOfManyTokens();
         endsOfTheLastDefinition();
@@ -949,7 +951,7 @@ public final class StepBoundaryTests extends Scenes {
 
     // Those that wait keep their slices, whichever tokens these are of.
     private static void slicesOfThoseThatWait() {
-        Tellcourt x = withVariables(1);
+        Tellcourt x = withVariables(2);
         int t = told(x, 0, S0, 0), late = x.when(KNOWN, S1, 0, told(x, 1, S0, 0));
         x.begin(t, 0, 0);
         x.step();
@@ -960,11 +962,13 @@ public final class StepBoundaryTests extends Scenes {
         x.step();
         int[] own = {64, 0, 65, 66};
         int[] slots = {1, 0, 2, 3};
+        // This one waits before them and never goes on.
+        x.begin(late, 0, F + 1);
         for (int i = 0; i < 4; i++) {
             x.begin(x.when(HAS, S0, 0, late), slots[i], F);
         }
         int bind = x.unless(true, KNOWN, S0, 0, x.equate(S0, 9));
-        Due.is("all wait for a value", run(x, bind, F, 0), 4 + 1 + 4 + 1 + 4 + 4);
+        Due.is("all wait for a value", run(x, bind, F, 0), 1 + 4 + 1 + 4 + 1 + 4 + 4);
         for (int i = 0; i < 4; i++) {
             Due.is("in their order", x.part(67 + i, 1), slots[i]);
             for (int token = 0; token < x.tokens(); token++) {
@@ -1268,6 +1272,69 @@ public final class StepBoundaryTests extends Scenes {
         Tellcourt z = withVariables(1);
         int d = told(z, 0, 0, 0);
         Due.is("once, either way", race(z, d, told(z, 0, 0, 0), F), 1);
+    }
+
+    // .. by their sorts, whether they last, and arguments: as their value, or .. the lowest variable of their class.
+    private static void endsBySortLastingAndArguments() {
+        for (int variable : new int[] {12, 13, 14, 59}) {
+            // What a side of the race tells, by the arguments that it has.
+            int[][] due = {{5, S1, 6, -99, 2}, {5, S1, 4, 99, 2}, {S1, 5, -99, 6, 2}, {S1, 5, 99, 4, 2}, {S1, 5, 5, S1, 2}, {5, S1, 5, S1, 1}};
+            for (int[] d : due) {
+                Tellcourt x = withVariables(60);
+                int one = told(x, 0, d[0], d[1]), other = told(x, 0, d[2], d[3]);
+                x.begin(x.either(x.when(KNOWN, S0, 0, one), 1, x.when(EQUAL, 0, 0, other), 0), F, F + variable);
+                x.begin(x.equate(S0, 1), F, 0);
+                Due.is("arguments with the variable " + variable, x.ends(), d[4]);
+            }
+        }
+        // In a step that fails tokens stand that do not last: a rule fails it as soon as one of them is told. If the
+        // second side is told before the value, the variable has none: that is one end more.
+        int[][] kinds = {{0, 1, 0, 1, 2}, {0, 0, 0, 1, 3}, {0, 1, 0, 0, 3}, {0, 1, 1, 0, 3}, {0, 0, 1, 1, 3}, {4, 1, 5, 0, 3},
+            {5, 0, 4, 1, 3}, {5, 1, 5, 0, 3}};
+        for (int[] k : kinds) {
+            Tellcourt x = withVariables(14);
+            for (int sort = 0; sort < 6; sort++) {
+                x.head(sort, ANY, ANY, true);
+                x.body(NONE, 0, 1);
+                x.rule();
+            }
+            String what = "sorts " + k[0] + " and " + k[2] + ", lasting " + k[1] + " and " + k[3];
+            int one = x.token(k[0], 0, 0, k[1] == 1), other = x.token(k[2], 0, 0, k[3] == 1);
+            Due.is(what, race(x, one, other, F), k[4]);
+            x.step();
+            Due.holds("it did not fail by that, but by a step", x.hasFailed() && x.fired(k[0]) + x.fired(k[2]) >= 1);
+        }
+        for (int last = 0; last < 2; last++) {
+            Tellcourt x = withVariables(14);
+            x.head(0, ANY, ANY, true);
+            x.body(NONE, 0, 1);
+            x.rule();
+            int one = x.token(0, S1, 0, last == 1), other = x.token(0, -99, 0, last == 0);
+            x.begin(x.either(x.when(KNOWN, S0, 0, one), 1, x.when(EQUAL, 0, 0, other), 0), F, F + 13);
+            x.begin(x.equate(S0, 1), F, 0);
+            Due.is("the 14th variable, and the least value", x.ends(), 3);
+        }
+        // The least token is there or not.
+        Tellcourt y = withVariables(1);
+        y.begin(y.token(0, -99, -99, false), 0, 0);
+        y.begin(failing(y), 0, 0);
+        Due.is("the least token, or none", y.ends(), 2);
+    }
+
+    // .. have the same values then, or none: classes without a value are told apart by tokens alone.
+    private static void endsOfClasses() {
+        // The variable 2 becomes one with a lower one, or not; a token that stands has none of them, 2, or the lower one.
+        for (int lower = 0; lower < 2; lower++) {
+            int[][] tokens = {{9, 1}, {F + 2, 2}, {F + lower, 1}};
+            for (int[] token : tokens) {
+                Tellcourt x = withVariables(3);
+                run(x, told(x, 0, S0, S0), token[0], 0);
+                int one = x.equate(S0, S0), other = x.equate(S0, S1);
+                x.begin(x.either(x.when(HAS + 1, 0, 0, one), 1, x.when(EQUAL, 0, 0, other), 0), F + lower, F + 2);
+                x.begin(x.token(1, 0, 0, false), 0, 0);
+                Due.is("ends of a class of " + lower + " and a token of " + token[0], x.ends(), token[1]);
+            }
+        }
     }
 
     // .. all variables that there are now have the same values then, or none.
