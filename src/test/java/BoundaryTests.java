@@ -38,19 +38,25 @@ public final class BoundaryTests extends Scenes {
         hideOneSlot();
         hiddenSlotsOfTwoAgents();
         callSlots();
+        callKeepsVariables();
         callWithoutANode();
         nextAndEach();
+        unlessAndDefaultWait();
         lotLessThanTheWeight();
         lotRemainders();
         lotWeights();
+        lotHandsOn();
         chanceAtFirst();
         chanceIsCutDown();
         chanceModulo();
         tryThatHolds();
+        tryWithThoseThatWaitInIt();
+        tryWithoutThoseThatWaitOutside();
         tryWithinThreeOthers();
         triesBesideOneAnother();
         tryComesBehindTheOutside();
         tryComesBehindWithItsSlices();
+        triesWithinTriesForTheNextStep();
         failedTryCountsActs();
         failedTryCountsFirings();
         failedTryKeepsDraws();
@@ -58,6 +64,7 @@ public final class BoundaryTests extends Scenes {
         failedTryKeepsTokenNumbers();
         failedTryKeepsVariableNumbers();
         failedTryForgetsTheRest();
+        failedTryKeepsTheFrame();
         failedTryOfAFullStore();
         failedTryForgetsManyFirings();
         failedTryBehindManyFirings();
@@ -305,7 +312,7 @@ public final class BoundaryTests extends Scenes {
     // UNLIKE, if both have values that are not the same.
     private static void unlike() {
         entailed(UNLIKE, true, new int[][] {{5, 6}, {-99, 99}, {-1, 1}, {F + 2, 6}, {4, F + 3}, {F + 2, F + 4}, {F + 6, F + 7}});
-        entailed(UNLIKE, false, new int[][] {{5, 5}, {-99, -99}, {F + 2, 5}, {F + 2, F + 3}, {F, 5}, {5, F}, {F, F + 5},
+        entailed(UNLIKE, false, new int[][] {{F + 5, 5}, {5, F + 5}, {F + 1, 6}, {5, 5}, {-99, -99}, {F + 2, 5}, {F + 2, F + 3}, {F, 5}, {5, F}, {F, F + 5},
             {F, F + 1}, {F, F}, {F, F + 2}, {F + 3, F + 5}});
     }
 
@@ -313,7 +320,7 @@ public final class BoundaryTests extends Scenes {
     private static void less() {
         entailed(LESS, true, new int[][] {{-99, -98}, {98, 99}, {-99, 99}, {-1, 0}, {0, 1}, {F + 2, F + 4}, {F + 6, -98},
             {98, F + 7}, {4, F + 2}, {F + 2, 6}});
-        entailed(LESS, false, new int[][] {{-98, -99}, {-99, -99}, {99, 99}, {0, 0}, {6, 5}, {F + 2, F + 3}, {F + 4, F + 2},
+        entailed(LESS, false, new int[][] {{F + 5, 99}, {-99, F + 5}, {F + 1, 99}, {-98, -99}, {-99, -99}, {99, 99}, {0, 0}, {6, 5}, {F + 2, F + 3}, {F + 4, F + 2},
             {F + 2, 5}, {5, F + 2}, {F, 99}, {-99, F}, {F, F + 5}, {F, F + 1}, {F + 2, F}});
     }
 
@@ -466,6 +473,18 @@ public final class BoundaryTests extends Scenes {
             run(x, calls[i][0], 0, 0);
             Due.is("the side taken at " + i, x.part(1 + i, 0), calls[i][1]);
         }
+        // The node behind it has its own counts, too.
+        int before = x.either(w, 0, v, 9), behind = x.either(w, 5, v, 5);
+        Due.is("they are neighbours", behind, before + 1);
+        run(x, before, 0, 0);
+        run(x, behind, 0, 0);
+        run(x, before, 0, 0);
+        run(x, behind, 0, 0);
+        run(x, before, 0, 0);
+        int[] due = {2, 1, 2, 2, 2};
+        for (int i = 0; i < due.length; i++) {
+            Due.is("the side of one of two neighbours at " + i, x.part(7 + i, 0), due[i]);
+        }
         // One WHEN on both sides.
         int twice = x.either(w, 5, w, 5);
         Due.is("acts of one WHEN twice", run(x, twice, 0, 0), 2);
@@ -525,6 +544,24 @@ public final class BoundaryTests extends Scenes {
         tokenIs("two values", x, 2, 0, -99, 99);
     }
 
+    // .. whose slots 0 and 1 are these: a variable that has a value is a variable there, too.
+    private static void callKeepsVariables() {
+        Tellcourt x = withVariables(3);
+        int same = x.equate(S0, S1), c = x.call(0, S0, S1);
+        x.define(0, same);
+        run(x, same, F, 5);
+        run(x, c, F, F + 1);
+        Due.holds("the first term", x.areOne(0, 1) && x.value(1) == 5);
+        run(x, c, F + 2, F + 1);
+        Due.holds("the second term", x.areOne(2, 0) && x.value(2) == 5);
+        // Its own variable, not another one of the class: this can be seen when they are not one any more.
+        Tellcourt y = withVariables(2);
+        y.define(0, told(y, 0, S0, S1));
+        int all = chain(y, y.equate(S0, S1), y.call(0, S1, S0), y.equate(0, 0), failing(y));
+        Due.is("acts", run(y, y.attempt(all, y.equate(0, 0)), F, F + 1), 10);
+        tokenIs("told in the TRY", y, 0, 0, F + 1, F, 0, 1);
+    }
+
     // At first none has one; an agent that calls one without a node does nothing.
     private static void callWithoutANode() {
         for (int definition = 0; definition < 6; definition++) {
@@ -554,6 +591,27 @@ public final class BoundaryTests extends Scenes {
             Due.is("it acts again", x.step(), 2);
         }
         tokenIs("its frame", x, 4, 0, 7, 8, 1, 1);
+    }
+
+    // UNLESS, DEFAULT a condition: the agent waits: what is entailed when they act does not matter.
+    private static void unlessAndDefaultWait() {
+        for (int d = 0; d < 2; d++) {
+            Tellcourt x = new Tellcourt();
+            int zero = told(x, 0, 0, 0), one = told(x, 1, 0, 0);
+            run(x, zero, 0, 0);
+            x.head(0, ANY, ANY, false);
+            x.other(1, ANY, ANY, true);
+            x.body(NONE, 0, 0);
+            x.rule();
+            x.begin(x.unless(d == 1, HAS, 0, 0, told(x, 2, 0, 0)), 0, 0);
+            Due.is("entailed, and then not", run(x, one, 0, 0), 3 + d);
+            Due.is("for the next step", x.waiting(), 1 - d);
+            Due.is("assumed", x.tokens(), 2 + d);
+            Tellcourt y = new Tellcourt();
+            y.begin(y.unless(d == 1, HAS, 0, 0, told(y, 2, 0, 0)), 0, 0);
+            Due.is("not entailed, and then it is", run(y, told(y, 0, 0, 0), 0, 0), 2);
+            Due.holds("nothing comes of it", y.waiting() == 0 && y.tokens() == 1 && !y.hasFailed());
+        }
     }
 
     // ---- lots
@@ -610,6 +668,22 @@ public final class BoundaryTests extends Scenes {
                 due = 65536 % (weight + more) < weight ? 0 : 1;
                 Due.is("65536 by " + weight + " and " + more, drawn(65536, weight, more), due);
             }
+        }
+    }
+
+    // .. the first node comes to the end of the queue, otherwise the second one: with the frame and the slice.
+    private static void lotHandsOn() {
+        for (int side = 0; side < 2; side++) {
+            Tellcourt x = new Tellcourt();
+            int t = told(x, 0, S0, S1), mark = told(x, 1, S0, S1);
+            int l = side == 0 ? x.lot(9, mark, 1, t) : x.lot(1, t, 9, mark);
+            x.seed(0);
+            run(x, t, 3, 4);
+            x.begin(x.when(HAS, 3, 4, l), 5, 6);
+            x.begin(t, 7, 7);
+            Due.is("acts", x.step(), 4);
+            tokenIs("behind what is there, side " + side, x, 2, 1, 5, 6, 1, 1);
+            Due.holds("with the slice", x.isMadeBy(2, 0) && !x.isMadeBy(2, 1));
         }
     }
 
@@ -695,6 +769,45 @@ public final class BoundaryTests extends Scenes {
         tokenIs("with its frame", x, 2, 2, 9, 0, 1, 1);
     }
 
+    // .. the first node acts until the rest: those that wait in it go on in it.
+    private static void tryWithThoseThatWaitInIt() {
+        Tellcourt x = withVariables(2);
+        int ask = x.when(KNOWN, S0, 0, told(x, 1, 0, 0)), bind = x.equate(S0, 1), none = x.equate(0, 0);
+        Due.is("a WHEN", run(x, x.attempt(x.both(ask, bind), none), F, 0), 6);
+        Due.holds("it went on", x.tokens() == 1 && x.value(0) == 1);
+        int e = x.either(ask, 0, x.when(KNOWN, S1, 0, told(x, 2, 0, 0)), 9);
+        int guess = x.unless(true, KNOWN, 99, 0, none), late = x.unless(true, HAS + 5, 0, 0, bind);
+        Due.is("an EITHER, by a DEFAULT", run(x, x.attempt(chain(x, e, guess, late), none), F + 1, F + 1), 9);
+        Due.holds("it went on, too", x.tokens() == 2 && x.part(1, 0) == 2 && x.value(1) == 1);
+        // What it brings may fail the TRY.
+        Tellcourt y = withVariables(1);
+        int in = y.both(y.when(KNOWN, S0, 0, failing(y)), y.equate(S0, 1));
+        Due.is("one that fails when it goes on", run(y, y.attempt(in, told(y, 0, 0, 0)), F, 0), 7);
+        Due.holds("the other one came", !y.hasFailed() && y.tokens() == 1 && y.value(0) == 100);
+    }
+
+    // .. in it, with an empty queue: those that wait outside do not go on in it, and are not looked at by its end.
+    private static void tryWithoutThoseThatWaitOutside() {
+        for (int fails = 0; fails < 2; fails++) {
+            Tellcourt x = new Tellcourt();
+            int one = told(x, 1, 0, 0), two = told(x, 2, 0, 0), three = told(x, 3, 0, 0), zero = told(x, 0, 0, 0);
+            x.begin(x.when(HAS, 0, 0, one), 0, 0);
+            x.begin(x.unless(true, HAS + 1, 0, 0, two), 0, 0);
+            x.begin(x.unless(false, HAS + 1, 0, 0, three), 0, 0);
+            x.begin(three, 0, 0);
+            x.begin(x.attempt(fails == 1 ? x.both(zero, failing(x)) : zero, zero), 0, 0);
+            x.begin(three, 0, 0);
+            Due.is("acts", x.step(), fails == 1 ? 12 : 9);
+            int[] held = {3, 0, 3, 1}, failed = {3, 0, 3, 0, 1};
+            int[] due = fails == 1 ? failed : held;
+            Due.is("tokens", x.tokens(), due.length);
+            for (int i = 0; i < due.length; i++) {
+                Due.is("the sort of " + i, x.part(i, 0), due[i]);
+            }
+            Due.is("UNLESS was looked at once, and not by then", x.waiting(), 0);
+        }
+    }
+
     // A TRY within three others fails at once.
     private static void tryWithinThreeOthers() {
         Tellcourt x = withVariables(1);
@@ -705,6 +818,13 @@ public final class BoundaryTests extends Scenes {
         Due.is("within three others it fails at once", run(x, x.attempt(two, failing(x)), 3, 4), 5);
         tokenIs("the other one of the innermost", x, 1, 1, 3, 4, 1, 1);
         Due.holds("nothing was tried", x.variables() == 2 && x.tokens() == 2);
+        // Its other one comes to the end of the queue.
+        Tellcourt w = new Tellcourt();
+        int never = told(w, 0, 0, 0), first = told(w, 1, S0, S1), last = told(w, 2, S0, S1);
+        int four = w.both(w.attempt(never, last), first);
+        Due.is("acts of four", run(w, w.attempt(w.attempt(w.attempt(four, never), never), never), 3, 4), 7);
+        tokenIs("what was in the queue", w, 0, 1, 3, 4, 1, 1);
+        tokenIs("behind it the other one", w, 1, 2, 3, 4, 1, 1);
         // If the other one fails, the TRY around it does so, and its other one comes.
         Tellcourt y = new Tellcourt();
         int fail = failing(y), mark = told(y, 2, 0, 0), nothing = told(y, 0, 0, 0);
@@ -764,6 +884,38 @@ public final class BoundaryTests extends Scenes {
             for (int token = 0; token < x.tokens(); token++) {
                 Due.holds("the slice of " + i + " and " + token, x.isMadeBy(66 + i, token) == (token == due[i]));
             }
+        }
+    }
+
+    // The same for TRYs within a TRY: what is for the next step is forgotten with it, or comes in its order.
+    private static void triesWithinTriesForTheNextStep() {
+        for (int depth = 1; depth <= 2; depth++) {
+            Tellcourt x = new Tellcourt();
+            int t = told(x, 0, 0, 0), fail = failing(x);
+            int in = chain(x, x.next(t), x.each(t), x.unless(false, HAS + 1, 0, 0, t)), all = in;
+            for (int i = 0; i < depth; i++) {
+                all = x.attempt(all, fail);
+            }
+            run(x, x.attempt(x.both(all, fail), x.equate(0, 0)), 0, 0);
+            Due.holds("forgotten with the outer one, at " + depth, x.waiting() == 0 && x.standing() == 0 && !x.hasFailed());
+            run(x, x.attempt(x.both(fail, in), t), 0, 0);
+            Due.holds("nothing of what did not act", x.waiting() == 0 && x.standing() == 1);
+            run(x, x.attempt(all, fail), 0, 0);
+            Due.is("three, if all hold", x.waiting(), 3);
+        }
+        Tellcourt y = new Tellcourt();
+        int none = y.equate(0, 0);
+        int[] marks = new int[5];
+        for (int i = 0; i < 5; i++) {
+            marks[i] = y.next(told(y, 0, i, 0));
+        }
+        int in = chain(y, marks[1], y.attempt(y.both(y.unless(false, HAS + 1, 0, 0, told(y, 0, 7, 0)), marks[2]), none), marks[3]);
+        run(y, chain(y, marks[0], y.attempt(in, none), marks[4]), 0, 0);
+        Due.is("six", y.waiting(), 6);
+        y.step();
+        int[] due = {0, 1, 2, 7, 3, 4};
+        for (int i = 0; i < 6; i++) {
+            Due.is("in their order, " + i, y.part(i, 1), due[i]);
         }
     }
 
@@ -845,6 +997,17 @@ public final class BoundaryTests extends Scenes {
         run(x, x.attempt(in, x.equate(0, 0)), F, 0);
         Due.holds("without a value", x.variables() == 2 && x.value(1) == 100 && x.value(0) == 100);
         Due.holds("and of no other's class", !x.areOne(0, 1));
+        // Two of them, each with a value of its own, or one with the other, in tokens that keep them as arguments.
+        for (int one = 0; one < 2; one++) {
+            Tellcourt y = withVariables(2);
+            int two = chain(y, y.equate(S2, 5), y.equate(S3, one == 1 ? S2 : 6), told(y, 0, S2, S3), failing(y));
+            run(y, y.attempt(y.hide(2, y.hide(3, two)), y.equate(0, 0)), F, F + 1);
+            Due.holds("none has a value", y.variables() == 4 && y.value(2) == 100 && y.value(3) == 100);
+            Due.holds("each alone", !y.areOne(2, 3) && !y.areOne(0, 2) && !y.areOne(1, 3));
+            tokenIs("its arguments", y, 0, 0, F + 2, F + 3, 0);
+            run(y, y.hide(2, y.both(y.equate(S2, 7), told(y, 1, S2, 0))), 0, 0);
+            Due.holds("the next one", y.value(4) == 7 && y.value(3) == 100 && y.part(1, 1) == 7);
+        }
         for (int other = 0; other < 2; other++) {
             Tellcourt y = withVariables(59);
             int none = y.equate(0, 0), h = y.hide(0, failing(y));
@@ -870,6 +1033,19 @@ public final class BoundaryTests extends Scenes {
         Due.holds("no value, no class", x.value(0) == 100 && x.value(1) == 100 && !x.areOne(0, 1));
         Due.holds("what it removed stands", x.part(0, 3) == 1 && x.part(1, 3) == 0 && x.fired(0) == 1);
         tokenIs("the other one, with the agent's frame", x, 2, 3, F, F + 1, 1, 1);
+    }
+
+    // .. with the frame .. of the agent: all of its slots.
+    private static void failedTryKeepsTheFrame() {
+        Tellcourt x = withVariables(1);
+        int low = told(x, 0, S0, S1), high = told(x, 1, S2, S3), other = x.both(low, high);
+        int changed = x.hide(0, x.hide(1, x.hide(2, x.hide(3, chain(x, low, high, failing(x))))));
+        Due.is("acts", run(x, x.hide(2, x.hide(3, x.attempt(changed, other))), F, 8), 15);
+        Due.is("the tokens of both", x.tokens(), 4);
+        tokenIs("the first slots in it", x, 0, 0, F + 3, F + 4, 0);
+        tokenIs("the last slots in it", x, 1, 1, F + 5, F + 6, 0);
+        tokenIs("the first slots of the agent", x, 2, 0, F, 8, 1);
+        tokenIs("the last slots of the agent", x, 3, 1, F + 1, F + 2, 1);
     }
 
     // The last variable and the last token are forgotten as well: a TRY of a full store.

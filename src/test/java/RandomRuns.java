@@ -22,7 +22,7 @@ public final class RandomRuns {
     }
 
     public static void main(String[] args) {
-        int runs = args.length > 0 ? Integer.parseInt(args[0]) : 3000;
+        int runs = args.length > 0 ? Integer.parseInt(args[0]) : 6000;
         int from = args.length > 1 ? Integer.parseInt(args[1]) : 0;
         TreeMap<String, Integer> seen = new TreeMap<>();
         int wrong = 0;
@@ -148,6 +148,21 @@ public final class RandomRuns {
     private boolean isSmall;
 
     private void play() {
+        if (run % 2 == 1) {
+            playTrees();
+        } else {
+            playGraphs();
+        }
+        same("standingAnew()", court::standingAnew, model::standingAnew);
+        look(true);
+        for (int i = 0; i < 2 && model.laws.size() > 0; i++) {
+            saw("fired " + Math.min(10, model.firings.values().stream().mapToInt(n -> n).sum()));
+        }
+        court.standing();
+    }
+
+    /** Nodes on any others, mostly the last ones. */
+    private void playGraphs() {
         sorts = 1 + upTo(4);
         values = 1 + upTo(4);
         slots = 1 + upTo(4);
@@ -190,21 +205,203 @@ public final class RandomRuns {
                 saw("ends " + same("ends()", court::ends, model::ends));
             }
             int before = model.clock;
-            saw("step " + (same("step()", court::step, model::step).startsWith("throws") ? "throws" : model.failed ? "fails" : model.acts == 0 ? "empty" : "ok"));
-            look(false);
-            if (rarely(5)) {
-                same("standingAnew()", court::standingAnew, model::standingAnew);
-            }
+            step();
             if (before == model.clock && rarely(2)) {
                 break;
             }
         }
-        same("standingAnew()", court::standingAnew, model::standingAnew);
-        look(true);
-        for (int i = 0; i < 2 && model.laws.size() > 0; i++) {
-            saw("fired " + Math.min(10, model.firings.values().stream().mapToInt(n -> n).sum()));
+    }
+
+    private void step() {
+        saw("step " + (same("step()", court::step, model::step).startsWith("throws") ? "throws" : model.failed ? "fails" : model.acts == 0 ? "empty" : "ok"));
+        look(false);
+        if (rarely(5)) {
+            same("standingAnew()", court::standingAnew, model::standingAnew);
         }
-        court.standing();
+    }
+
+    // ---- trees
+
+    private int fails;
+    private final List<Integer> roots = new ArrayList<>();
+
+    /**
+     * Trees of nodes whose asks are often met: few values, sorts and variables, rules that tell other sorts than those
+     * of their heads, TRYs that fail late, and roots within a TRY, so that the store seldom fails as a whole.
+     */
+    private void playTrees() {
+        sorts = 2 + upTo(2);
+        values = 2;
+        slots = 2;
+        for (int i = 2 + upTo(3); i > 0; i--) {
+            variable();
+        }
+        fails = equate(0, 1);
+        int quiet = equate(0, 0);
+        define();
+        for (int i = upTo(5); i > 0; i--) {
+            tameLaw();
+        }
+        for (int round = 2 + upTo(7); round > 0 && count < 480 && !differs && !model.failed; round--) {
+            // A round of small trees has few schedules, and their ends differ more often.
+            boolean isLow = rarely(3);
+            if (isLow) {
+                roots.clear();
+            }
+            for (int i = isLow ? 3 : 1; i > 0 && model.nodes.size() < 50; i--) {
+                int root = tree(isLow ? upTo(3) : 2 + upTo(3));
+                roots.add(rarely(isLow ? 2 : 4) ? root : attempt(root, quiet));
+                define(upTo(3), root);
+            }
+            if (roots.isEmpty()) {
+                roots.add(quiet);
+            }
+            for (int i = 1 + upTo(isLow ? 3 : 2); i > 0; i--) {
+                int n = roots.get(upTo(roots.size())), a = slot(), b = slot();
+                same("begin(" + n + ", " + a + ", " + b + ")", () -> court.begin(n, a, b), () -> model.begin(n, a, b));
+            }
+            if (rarely(3)) {
+                tameLaw();
+            }
+            if (!rarely(3)) {
+                saw("tree ends " + same("ends()", court::ends, model::ends));
+            }
+            step();
+        }
+    }
+
+    private int slot() {
+        return rarely(5) ? upTo(values) : 400 + upTo(Math.min(6, model.shop.variables));
+    }
+
+    private int tameTerm() {
+        return rarely(3) ? upTo(values) : rarely(3) ? 200 + upTo(4) : 200 + upTo(2);
+    }
+
+    private int tameCondition() {
+        return rarely(3) ? 3 : rarely(2) ? upTo(3) : 10 + upTo(sorts + 1);
+    }
+
+    private int made() {
+        return model.nodes.size() - 1;
+    }
+
+    private int equate(int a, int b) {
+        same("equate(" + a + ", " + b + ")", () -> court.equate(a, b), () -> model.equate(a, b));
+        return made();
+    }
+
+    private int attempt(int n, int m) {
+        same("attempt(" + n + ", " + m + ")", () -> court.attempt(n, m), () -> model.attempt(n, m));
+        return made();
+    }
+
+    private int both(int n, int m) {
+        same("both(" + n + ", " + m + ")", () -> court.both(n, m), () -> model.both(n, m));
+        return made();
+    }
+
+    /** A condition and its terms: often a HAS of what some node tells. */
+    private int[] tameAsk() {
+        int at = upTo(model.nodes.size());
+        Model.Node told = model.nodes.get(at);
+        if (told.kind().equals("token") && !rarely(3)) {
+            return new int[] {10 + told.what(), told.a(), told.b()};
+        }
+        return new int[] {tameCondition(), tameTerm(), tameTerm()};
+    }
+
+    private int ask(int n) {
+        int[] asked = tameAsk();
+        int c = asked[0], a = asked[1], b = asked[2];
+        same("when(" + c + ", " + a + ", " + b + ", " + n + ")", () -> court.when(c, a, b, n), () -> model.when(c, a, b, n));
+        return made();
+    }
+
+    private void define(int d, int n) {
+        if (rarely(3)) {
+            same("define(" + d + ", " + n + ")", () -> court.define(d, n), () -> model.define(d, n));
+        }
+    }
+
+    private int tameLeaf() {
+        int a = tameTerm(), b = tameTerm(), s = upTo(sorts);
+        if (rarely(3)) {
+            return equate(a, b);
+        }
+        boolean lasts = !rarely(3);
+        same("token(" + s + ", " + a + ", " + b + ", " + lasts + ")", () -> court.token(s, a, b, lasts), () -> model.token(s, a, b, lasts));
+        return made();
+    }
+
+    private int tree(int depth) {
+        if (model.nodes.size() > 55 || rarely(12)) {
+            return upTo(model.nodes.size());
+        }
+        if (depth == 0 || rarely(8)) {
+            return tameLeaf();
+        }
+        int kind = upTo(20), n = tree(depth - 1), a = tameTerm(), b = tameTerm(), k = upTo(4);
+        int[] asked = tameAsk();
+        switch (kind) {
+            case 7, 8 -> ask(n);
+            case 9 -> {
+                int w = ask(n), v = ask(tree(depth - 1)), p = upTo(2), q = upTo(2);
+                same("either(" + w + ", " + p + ", " + v + ", " + q + ")", () -> court.either(w, p, v, q), () -> model.either(w, p, v, q));
+            }
+            case 10, 11 -> same("hide(" + k + ", " + n + ")", () -> court.hide(k, n), () -> model.hide(k, n));
+            case 12 -> {
+                int d = upTo(3);
+                same("call(" + d + ", " + a + ", " + b + ")", () -> court.call(d, a, b), () -> model.call(d, a, b));
+            }
+            case 13 -> same("next(" + n + ")", () -> court.next(n), () -> model.next(n));
+            case 14 -> same("each(" + n + ")", () -> court.each(n), () -> model.each(n));
+            case 15, 16 -> {
+                boolean d = rarely(2);
+                int c = asked[0], e = asked[1], f = asked[2];
+                same("unless(" + d + ", " + c + ", " + e + ", " + f + ", " + n + ")", () -> court.unless(d, c, e, f, n), () -> model.unless(d, c, e, f, n));
+            }
+            case 17 -> {
+                int m = tree(depth - 1), w = 1 + upTo(9), v = 1 + upTo(9);
+                same("lot(" + w + ", " + n + ", " + v + ", " + m + ")", () -> court.lot(w, n, v, m), () -> model.lot(w, n, v, m));
+            }
+            case 18, 19 -> {
+                int late = rarely(2) ? both(n, rarely(2) ? fails : both(tree(depth - 1), fails)) : n;
+                attempt(late, tree(depth - 1));
+            }
+            default -> both(n, tree(depth - 1));
+        }
+        return made();
+    }
+
+    /** A rule that matches often; what it tells is mostly of a higher sort than its heads are. */
+    private void tameLaw() {
+        int heads = 1 + upTo(2), high = 0;
+        for (int i = 0; i < heads; i++) {
+            int s = upTo(sorts), a = tamePattern(), b = tamePattern();
+            boolean stays = !rarely(3);
+            high = Math.max(high, s);
+            if (i == 0) {
+                same("head(" + s + ", " + a + ", " + b + ", " + stays + ")", () -> court.head(s, a, b, stays) ? 1 : 0, () -> model.head(s, a, b, stays) ? 1 : 0);
+            } else {
+                same("other(" + s + ", " + a + ", " + b + ", " + stays + ")", () -> court.other(s, a, b, stays), () -> model.other(s, a, b, stays));
+            }
+        }
+        if (rarely(3)) {
+            int c = tameCondition(), a = lawTerm(), b = lawTerm();
+            same("guard(" + c + ", " + a + ", " + b + ")", () -> court.guard(c, a, b) ? 1 : 0, () -> model.guard(c, a, b) ? 1 : 0);
+        }
+        for (int i = 1 + upTo(2); i > 0; i--) {
+            int s = rarely(3) ? -1 : rarely(4) ? upTo(6) : Math.min(5, high + 1 + upTo(2)), a = lawTerm(), b = lawTerm();
+            same("body(" + s + ", " + a + ", " + b + ")", () -> court.body(s, a, b), () -> model.body(s, a, b));
+        }
+        if (!rarely(10)) {
+            saw("rule " + same("rule()", court::rule, model::rule));
+        }
+    }
+
+    private int tamePattern() {
+        return rarely(4) ? 300 : rarely(6) ? upTo(values) : 200 + upTo(3);
     }
 
     /** Makes so many variables and tokens that the next ones may be too many. */

@@ -14,6 +14,7 @@ public final class StepBoundaryTests extends Scenes {
         thoseThatWaitInTheirOrder();
         theFirstDefaultThatIsNotEntailed();
         oneDefaultAtARest();
+        whatGoesOnIsNoRest();
         anAssumptionMustStaySo();
         anAssumptionThatIsEntailedForAWhile();
         aFailureEndsTheStepAtOnce();
@@ -35,6 +36,7 @@ public final class StepBoundaryTests extends Scenes {
         aDefaultInATry();
         eightRules();
         rulesNeedABody();
+        rulesBegunAnew();
         twoHeadsAreTwoTokens();
         aValueFitsWhatIsEqual();
         aRuleVariableStandsForTheFirst();
@@ -42,14 +44,18 @@ public final class StepBoundaryTests extends Scenes {
         rulesByRisingNumbers();
         headsInTheirOrder();
         othersThatStandWhenItIsTheirTurn();
+        guardsAreAskedBeforeTheRemoval();
         asLongAsTheActiveTokenStands();
+        goesOnWithTheNext();
         withOneHeadItFiresOnce();
         notAgainForTheSame();
+        eachRuleOfEachToken();
         theLastRuleAndTheLastTokens();
         eachRuleForgetsInATry();
         allPairsOnce();
         bodiesInTheirOrder();
         slicesOfTheHeads();
+        slicesOfLateHeads();
         slicesAtTheEdges();
         slicesOfOneEach();
         slicesOfThoseThatWait();
@@ -69,6 +75,7 @@ public final class StepBoundaryTests extends Scenes {
         endsCountEachAsOften();
         endsBySortLastingAndArguments();
         endsOfClasses();
+        endsOfNothingElse();
         endsOfManyVariables();
         endsOfManyTokens();
         endsOfTheLastDefinition();
@@ -76,6 +83,7 @@ public final class StepBoundaryTests extends Scenes {
         thePartsOfAToken();
         howOftenARuleFired();
         standingAndDoneAnew();
+        doneAnewFromNothing();
         Due.end("StepBoundaryTests");
     }
 
@@ -186,6 +194,22 @@ public final class StepBoundaryTests extends Scenes {
         x.begin(late, F, 2);
         Due.is("acts", x.step(), 6);
         Due.holds("the second one was not assumed", !x.hasFailed() && x.value(0) == 1 && x.tokens() == 1);
+    }
+
+    // .. if there are none, it is a rest: as long as one can go on, none is assumed.
+    private static void whatGoesOnIsNoRest() {
+        Tellcourt x = withVariables(1);
+        int mark = told(x, 1, 0, 0);
+        x.begin(x.unless(true, HAS + 1, 0, 0, told(x, 2, 0, 0)), 0, 0);
+        x.begin(x.when(KNOWN, S0, 0, mark), F, 0);
+        Due.is("acts", run(x, x.equate(S0, 1), F, 0), 5);
+        Due.holds("the DEFAULT was not assumed", !x.hasFailed() && x.tokens() == 1 && x.part(0, 0) == 1);
+        // The same behind one that was assumed.
+        Tellcourt y = withVariables(1);
+        y.begin(y.unless(true, HAS + 2, 0, 0, y.equate(S0, 1)), F, 0);
+        y.begin(y.unless(true, HAS + 1, 0, 0, told(y, 2, 0, 0)), 0, 0);
+        Due.is("acts of three", run(y, y.when(KNOWN, S0, 0, told(y, 1, 0, 0)), F, 0), 6);
+        Due.holds("the second one was not assumed", !y.hasFailed() && y.tokens() == 1 && y.part(0, 0) == 1);
     }
 
     // .. if the condition of one that was assumed is entailed now, the store fails.
@@ -551,6 +575,33 @@ public final class StepBoundaryTests extends Scenes {
         Due.holds("what was told", x.tokens() == 4 && x.part(2, 0) == 2 && x.part(3, 0) == 3 && x.standing() == 2);
     }
 
+    // head: Begins a rule .. in place of one that was begun and not made: nothing of that one is left.
+    private static void rulesBegunAnew() {
+        Tellcourt x = new Tellcourt();
+        x.head(0, S0, S1, false);
+        x.other(1, S2, S3, false);
+        x.guard(UNLIKE, 1, 1);
+        x.body(4, S3, S3);
+        x.body(4, S3, S3);
+        Due.holds("one was begun", x.head(2, 7, S3, true));
+        Due.fails("no body", Due.STATE, x::rule);
+        Due.fails("a rule variable of before in a guard", Due.RANGE, () -> x.guard(KNOWN, S0, 0) ? 1 : 0);
+        Due.fails("a rule variable of before in a body", Due.RANGE, () -> x.body(4, S2, 0));
+        Due.is("a body", x.body(3, S3, 0), 1);
+        Due.is("the rule", x.rule(), 0);
+        Due.is("without the guard, the second head and the bodies", run(x, told(x, 2, 7, 5), 0, 0), 2);
+        Due.holds("its token", x.tokens() == 2 && x.part(1, 0) == 3 && x.part(1, 1) == 5 && x.standing() == 2);
+        x.head(0, S0, ANY, true);
+        x.guard(UNLIKE, 1, 1);
+        x.head(0, S0, ANY, true);
+        Due.is("a second head", x.other(1, ANY, ANY, true), 2);
+        Due.holds("a guard", x.guard(EQUAL, 1, 1));
+        Due.is("a first body", x.body(5, 0, 0), 1);
+        Due.is("a second one", x.body(5, 0, 0), 2);
+        Due.is("the second rule", x.rule(), 1);
+        Due.holds("none is begun", !x.head(0, 0, 0, true));
+    }
+
     // Tokens match heads, two of them being two.
     private static void twoHeadsAreTwoTokens() {
         Tellcourt x = new Tellcourt();
@@ -715,6 +766,26 @@ public final class StepBoundaryTests extends Scenes {
         Due.holds("one removed in between is passed over", y.fired(1) == 2 && y.fired(0) == 1 && y.part(1, 3) == 0);
     }
 
+    // .. if they match, and the guard is entailed, the rule fires: what it removes stands when the guard is asked.
+    private static void guardsAreAskedBeforeTheRemoval() {
+        Tellcourt x = new Tellcourt();
+        x.head(0, S0, S1, false);
+        x.guard(HAS, S0, S1);
+        x.body(2, S0, S1);
+        x.rule();
+        Due.is("its own head", run(x, told(x, 0, 3, 4), 0, 0), 2);
+        tokenIs("its body", x, 1, 2, 3, 4, 1, 1);
+        Tellcourt y = new Tellcourt();
+        y.head(0, S0, ANY, true);
+        y.other(1, S0, S1, false);
+        y.guard(HAS + 1, S0, S1);
+        y.body(2, S0, S1);
+        y.rule();
+        run(y, told(y, 1, 3, 4), 0, 0);
+        Due.is("its second head", run(y, told(y, 0, 3, 0), 0, 0), 2);
+        Due.holds("it is removed", y.part(0, 3) == 0 && y.standing() == 2);
+    }
+
     // .. as long as the active token stands.
     private static void asLongAsTheActiveTokenStands() {
         Tellcourt x = new Tellcourt();
@@ -744,6 +815,40 @@ public final class StepBoundaryTests extends Scenes {
         y.step();
         Due.is("acts", run(y, told(y, 0, 0, 0), 0, 0), 3);
         Due.holds("it fired once", y.fired(1) == 1 && y.fired(0) == 1 && y.part(2, 3) == 0);
+    }
+
+    // (After each firing it goes on with the next other token): not with one that was passed, nor an earlier head or rule.
+    private static void goesOnWithTheNext() {
+        Tellcourt x = new Tellcourt();
+        x.head(0, ANY, ANY, true);
+        x.guard(HAS + 3, 9, 0);
+        x.body(4, 0, 0);
+        x.rule();
+        x.head(0, ANY, ANY, true);
+        x.other(1, S0, ANY, true);
+        x.guard(HAS + 3, S0, 0);
+        x.body(3, 1, 0);
+        x.body(3, 9, 0);
+        x.rule();
+        int one = told(x, 1, S0, 0);
+        x.begin(one, 1, 0);
+        x.begin(one, 2, 0);
+        x.begin(told(x, 3, 2, 0), 0, 0);
+        x.step();
+        Due.is("acts", run(x, told(x, 0, 0, 0), 0, 0), 2);
+        Due.holds("the first partner and the first rule were passed", x.fired(0) == 0 && x.fired(1) == 1 && x.tokens() == 6);
+        Tellcourt y = new Tellcourt();
+        y.head(0, S0, ANY, true);
+        y.other(0, S1, ANY, true);
+        y.guard(HAS + 3, S0, 0);
+        y.body(3, S1, 0);
+        y.rule();
+        int zero = told(y, 0, S0, 0);
+        y.begin(zero, 1, 0);
+        y.begin(told(y, 3, 1, 0), 0, 0);
+        y.step();
+        Due.is("as the second head", run(y, zero, 2, 0), 2);
+        Due.holds("the first head was passed", y.fired(0) == 1 && y.tokens() == 4 && y.part(3, 1) == 2);
     }
 
     // (After each firing it goes on with the next other token; with one head it fires once.)
@@ -786,6 +891,26 @@ public final class StepBoundaryTests extends Scenes {
         y.begin(one, 0, 0);
         Due.is("for each that it removes", y.step(), 5);
         Due.is("one stands", y.standing(), 1);
+    }
+
+    // .. for the same tokens: each of a hundred is another one for each of eight rules.
+    private static void eachRuleOfEachToken() {
+        Tellcourt x = new Tellcourt();
+        for (int i = 0; i < 8; i++) {
+            x.head(0, S0, ANY, true);
+            x.body(NONE, S0, S0);
+            x.rule();
+        }
+        int t = told(x, 0, S0, 0);
+        for (int i = 0; i < 99; i++) {
+            x.begin(t, i, 0);
+            if (x.waiting() == 6 || i == 98) {
+                Due.is("acts of each and its eight firings", x.waiting() * 9, x.step());
+            }
+        }
+        for (int i = 0; i < 8; i++) {
+            Due.is("the firings of the rule " + i, x.fired(i), 99);
+        }
     }
 
     // The same for the last rule and the last tokens, and for a TRY that forgets it.
@@ -907,6 +1032,29 @@ public final class StepBoundaryTests extends Scenes {
         int[] due = {1, 0, 1, 1, 0};
         for (int i = 0; i < due.length; i++) {
             Due.is("in the slice: " + i, x.isMadeBy(4, i) ? 1 : 0, due[i]);
+        }
+    }
+
+    // .. and the slices of these, where the heads are late and what is in their slices is early.
+    private static void slicesOfLateHeads() {
+        for (int early : new int[] {0, 3, 35}) {
+            Tellcourt x = new Tellcourt();
+            x.head(1, ANY, ANY, true);
+            x.other(2, ANY, ANY, true);
+            x.body(3, 0, 0);
+            x.rule();
+            int pass = x.token(5, 0, 0, false), zero = told(x, 0, 0, 0);
+            runOften(x, pass, early);
+            run(x, zero, 0, 0);
+            runOften(x, pass, 95 - early);
+            run(x, x.when(HAS, 0, 0, told(x, 1, 0, 0)), 0, 0);
+            run(x, x.when(HAS, 0, 0, told(x, 2, 0, 0)), 0, 0);
+            Due.is("the token of the rule", x.part(98, 0), 3);
+            run(x, x.when(HAS + 3, 0, 0, zero), 0, 0);
+            for (int i = 0; i < 100; i++) {
+                Due.holds("made by a rule, " + i, x.isMadeBy(98, i) == (i == early || i == 96 || i == 97));
+                Due.holds("made by that, " + i, x.isMadeBy(99, i) == (i == early || i >= 96 && i <= 98));
+            }
         }
     }
 
@@ -1337,6 +1485,30 @@ public final class StepBoundaryTests extends Scenes {
         }
     }
 
+    // Two ends are the same if ..: nothing else tells them apart.
+    private static void endsOfNothingElse() {
+        for (int kind = 0; kind < 8; kind++) {
+            Tellcourt x = withVariables(1);
+            int none = x.equate(0, 0), t = told(x, 0, 0, 0), fail = failing(x), side = none;
+            switch (kind) {
+                case 0 -> side = x.attempt(x.both(t, fail), none);
+                case 1 -> side = x.hide(2, none);
+                case 2 -> side = x.next(none);
+                case 3 -> side = x.lot(1, none, 2, none);
+                case 4 -> side = x.both(none, none);
+                case 5 -> side = x.token(0, 0, 0, false);
+                case 6 -> side = x.unless(false, HAS, 0, 0, none);
+                default -> {
+                    x.head(0, ANY, ANY, false);
+                    x.body(NONE, 0, 0);
+                    x.rule();
+                    side = t;
+                }
+            }
+            Due.is("what one side does alone: " + kind, race(x, side, none, F), 1);
+        }
+    }
+
     // .. all variables that there are now have the same values then, or none.
     private static void endsOfManyVariables() {
         for (int variable : new int[] {0, 58, 59}) {
@@ -1448,5 +1620,37 @@ public final class StepBoundaryTests extends Scenes {
         Due.holds("some were drawn, and some not", x.standing() > 0 && x.standing() < 30);
         Due.is("a second time", x.standingAnew(), x.standing());
         Due.is("not another step", x.clock(), 30);
+    }
+
+    // .. from the beginning: with an empty store, no definitions and no rules, whatever was done anew before.
+    private static void doneAnewFromNothing() {
+        Tellcourt x = new Tellcourt();
+        int t = told(x, 0, 0, 0);
+        run(x, x.call(0, 0, 0), 0, 0);
+        x.define(0, t);
+        for (int i = 0; i < 2; i++) {
+            Due.is("a CALL of what was not defined then", x.standingAnew(), 0);
+            Due.is("ends", x.ends(), 1);
+        }
+        // A rule that was not made then; one that fired since.
+        run(x, t, 0, 0);
+        x.head(0, ANY, ANY, true);
+        x.body(1, 0, 0);
+        x.rule();
+        for (int i = 0; i < 2; i++) {
+            Due.is("a token of before the rule", x.standingAnew(), 1);
+            Due.is("ends with the rule", x.ends(), 1);
+        }
+        run(x, t, 0, 0);
+        Due.holds("one of behind it", x.standingAnew() == 3 && x.standingAnew() == 3);
+        // Another schedule told as the first token what is told in a TRY that fails.
+        Tellcourt y = new Tellcourt();
+        int mark = told(y, 0, 0, 0), none = y.equate(0, 0);
+        y.begin(y.attempt(y.both(told(y, 1, 0, 0), failing(y)), none), 0, 0);
+        y.begin(mark, 0, 0);
+        Due.is("two schedules or three", y.ends(), 1);
+        y.step();
+        Due.holds("one token stands, the second", y.standing() == 1 && y.tokens() == 2 && y.part(1, 3) == 1);
+        Due.is("done anew", y.standingAnew(), 1);
     }
 }
