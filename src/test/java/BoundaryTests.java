@@ -28,6 +28,7 @@ public final class BoundaryTests extends Scenes {
         has();
         nodesAtMost60();
         slotsOfBegunAgents();
+        allHandOnTheFrameAndTheSlice();
         bothTheFirstOneFirst();
         whenByTheLowestThatStands();
         whenWaits();
@@ -379,6 +380,61 @@ public final class BoundaryTests extends Scenes {
         tokenIs("the least value and the last variable", x, 0, 0, -99, F + 59);
         tokenIs("the first variable and the greatest value", x, 1, 0, F, 99);
         tokenIs("the slots 2 and 3", x, 2, 1, 0, 0);
+    }
+
+    /** A node of some kind by which the leaf comes, in the step or in the next one, or, the last one, in that alone. */
+    private static int bringing(Tellcourt x, int kind, int leaf) {
+        int none = x.equate(0, 0), fail = failing(x), late = x.when(HAS + 4, 0, 0, leaf);
+        int three = x.attempt(x.attempt(x.attempt(x.attempt(fail, leaf), fail), fail), fail);
+        return switch (kind) {
+            case 0 -> x.both(leaf, none);
+            case 1 -> x.both(none, leaf);
+            case 2 -> x.when(EQUAL, 0, 0, leaf);
+            case 3 -> late;
+            case 4 -> x.either(x.when(EQUAL, 0, 0, leaf), 0, late, 0);
+            case 5 -> x.either(x.when(UNLIKE, 0, 0, none), 0, late, 0);
+            case 6 -> x.next(leaf);
+            case 7 -> x.each(leaf);
+            case 8 -> x.unless(false, UNLIKE, 0, 0, leaf);
+            case 9 -> x.unless(true, UNLIKE, 0, 0, leaf);
+            case 10 -> x.lot(9, leaf, 1, fail);
+            case 11 -> x.lot(1, fail, 9, leaf);
+            case 12 -> x.attempt(leaf, fail);
+            case 13 -> x.attempt(fail, leaf);
+            case 14 -> three;
+            default -> x.each(late);
+        };
+    }
+
+    // An agent is a node with a frame .. and with a slice: what brings a node brings it with both, whole.
+    private static void allHandOnTheFrameAndTheSlice() {
+        for (int kind = 0; kind <= 15; kind++) {
+            Tellcourt x = withVariables(2);
+            run(x, x.equate(S0, 5), F, 0);
+            run(x, told(x, 0, 0, 0), 0, 0);
+            int leaf = chain(x, told(x, 1, S0, S1), told(x, 2, S2, S3), x.equate(S0, S1));
+            // What some wait for comes at the first rest.
+            int four = x.unless(true, UNLIKE, 0, 0, x.token(4, 0, 0, false));
+            x.seed(0);
+            x.begin(x.when(HAS, 0, 0, x.hide(2, x.hide(3, bringing(x, kind, leaf)))), F, F + 1);
+            for (int step = 0; step < 2; step++) {
+                if (step == 1 || kind != 15) {
+                    x.begin(four, 0, 0);
+                }
+                x.step();
+            }
+            int seen = 0;
+            for (int i = 0; i < x.tokens(); i++) {
+                int sort = x.part(i, 0);
+                if (sort == 1 || sort == 2) {
+                    tokenIs("its slots, kind " + kind, x, i, sort, sort == 1 ? 5 : F + 2, sort == 1 ? 5 : F + 3, 1, 1);
+                    Due.holds("its slice, kind " + kind, x.isMadeBy(i, 0));
+                    seen++;
+                }
+            }
+            Due.is("the leaf's tokens, kind " + kind, seen, kind == 7 ? 4 : 2);
+            Due.holds("a variable with a value is one still, kind " + kind, x.areOne(0, 1) && !x.hasFailed());
+        }
     }
 
     // BOTH: the two nodes come to the end of the queue, the first one first.

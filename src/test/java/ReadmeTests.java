@@ -7,6 +7,7 @@ import java.util.List;
 import java.util.regex.Matcher;
 import java.util.regex.Pattern;
 import java.util.stream.Stream;
+import javax.tools.JavaCompiler;
 import javax.tools.ToolProvider;
 
 /**
@@ -22,12 +23,21 @@ public final class ReadmeTests {
     public static void main(String[] args) throws IOException, ReflectiveOperationException {
         List<String> lines = example(Files.readString(Path.of("README.md")));
         Due.holds("the example has " + lines.size() + " lines", lines.size() > 30);
+        JavaCompiler compiler = ToolProvider.getSystemJavaCompiler();
+        Due.holds("this Java has its compiler", compiler != null);
+        if (compiler != null) {
+            compileAndPlay(compiler, lines);
+        }
+        Due.end("ReadmeTests");
+    }
+
+    private static void compileAndPlay(JavaCompiler compiler, List<String> lines) throws IOException, ReflectiveOperationException {
         Path made = Files.createTempDirectory("readme");
         try {
             Path file = made.resolve("Example.java");
             Files.writeString(file, program(lines));
             String path = System.getProperty("java.class.path");
-            int code = ToolProvider.getSystemJavaCompiler().run(null, null, null, "-cp", path, "-d", made.toString(), file.toString());
+            int code = compiler.run(null, null, null, "-cp", path, "-d", made.toString(), file.toString());
             Due.is("the example's compilation", code, 0);
             if (code == 0) {
                 play(made);
@@ -35,7 +45,6 @@ public final class ReadmeTests {
         } finally {
             remove(made);
         }
-        Due.end("ReadmeTests");
     }
 
     /** The lines of the first block of Java in the text. */

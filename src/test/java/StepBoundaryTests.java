@@ -20,6 +20,7 @@ public final class StepBoundaryTests extends Scenes {
         aFailureEndsTheStepAtOnce();
         aFailureAtTheEndOfTheStep();
         unlessIsLookedAtFirst();
+        unlessKeepsItsOrder();
         thoseThatWaitAreDropped();
         tokensThatDoNotLast();
         sixtyActsOfAgents();
@@ -288,6 +289,31 @@ public final class StepBoundaryTests extends Scenes {
         int[] due = {4, 1, 3};
         for (int i = 0; i < due.length; i++) {
             Due.is("the order, " + i, x.part(1 + i, 1), due[i]);
+        }
+    }
+
+    // .. in the order in which they began to wait: also if others went on from between them.
+    private static void unlessKeepsItsOrder() {
+        for (int at = 0; at <= 4; at++) {
+            Tellcourt x = withVariables(1);
+            int t = told(x, 1, S0, 0), u = x.unless(false, UNLIKE, 0, 0, t);
+            int w = x.when(KNOWN, S0, 0, x.equate(0, 0)), never = x.when(UNLIKE, 0, 0, failing(x));
+            for (int i = 0; i <= 4; i++) {
+                if (i == at) {
+                    x.begin(w, F, 0);
+                    x.begin(never, 0, 0);
+                    x.begin(w, F, 0);
+                }
+                if (i < 4) {
+                    x.begin(u, i, 0);
+                }
+            }
+            Due.is("acts", run(x, x.equate(S0, 1), F, 0), 12);
+            Due.is("four", x.waiting(), 4);
+            x.step();
+            for (int i = 0; i < 4; i++) {
+                Due.is("the order, " + i + ", with one that went on at " + at, x.part(i, 1), i);
+            }
         }
     }
 
@@ -1643,6 +1669,28 @@ public final class StepBoundaryTests extends Scenes {
         }
         run(x, t, 0, 0);
         Due.holds("one of behind it", x.standingAnew() == 3 && x.standingAnew() == 3);
+        // An agent was begun with a variable that had a value: it is the variable that becomes one with another.
+        Tellcourt z = withVariables(2);
+        int same = z.equate(S0, S1);
+        run(z, same, F, 5);
+        run(z, told(z, 0, S0, 0), F, 0);
+        z.head(0, ANY, ANY, false);
+        z.body(NONE, 0, 0);
+        z.rule();
+        Due.is("it wakes", run(z, same, F, F + 1), 2);
+        Due.holds("and is removed", z.standing() == 0 && z.standingAnew() == 0);
+        // Schedules that were tried, and left because there are too many, are not taken.
+        Tellcourt w = new Tellcourt();
+        int one = told(w, 1, 0, 0), zero = told(w, 0, 0, 0), nothing = w.equate(0, 0);
+        w.begin(w.either(w.when(HAS, 0, 0, nothing), 1, w.when(EQUAL, 0, 0, one), 0), 0, 0);
+        run(w, zero, 0, 0);
+        Due.is("the EITHER is the first of the queue", w.standing(), 2);
+        for (int i = 0; i < 4; i++) {
+            w.begin(nothing, 0, 0);
+        }
+        Due.is("too many schedules", w.ends(), NONE);
+        Due.is("done anew behind them", w.standingAnew(), 2);
+        Due.is("a step behind them", w.step(), 4);
         // Another schedule told as the first token what is told in a TRY that fails.
         Tellcourt y = new Tellcourt();
         int mark = told(y, 0, 0, 0), none = y.equate(0, 0);
